@@ -44,6 +44,7 @@ public final class TreasureWalk {
     private static final int LAST_COLUMN = STRIDE - 1;
     private static final int SPOTS = ROWS * STRIDE;
     private static final int NOWHERE = 0;
+    /** From a spot to its neighbours by the bearings: a row is 32 spots. */
     private static final int[] OFFSETS = {-32, -31, 1, 33, 32, 31, -1, -33};
 
     private static final int GO = 0;
@@ -676,7 +677,7 @@ public final class TreasureWalk {
         private int end;
         private int kind;
         private int error;
-        private int errorAt = -1;
+        private int errorAt;
         private int areaFirst;
         private int areaLast;
 
@@ -834,7 +835,9 @@ public final class TreasureWalk {
             clues.bearings.put(leg, bearing);
             clues.goals.put(leg, goal);
             clues.fewestPaces.put(leg, Math.max(0, number - give));
-            clues.mostPaces.put(leg, number + give);
+            // an end leg that can make the 60th pace ends nowhere, so 59 are its most
+            clues.mostPaces.put(leg, legKind == GO ? number + give
+                    : legKind == TO ? MOST_PACES : MOST_PACES - 1);
             clues.legCounts.put(clues.count, place + 1);
         }
 
@@ -1015,35 +1018,27 @@ public final class TreasureWalk {
 
         private void followLeg(int clue, int leg, int from) {
             int index = clue * MOST_LEGS + leg;
+            int most = data.clues.mostPaces.get(index);
             int spot = from;
-            for (int paces = 0; paces <= MOST_PACES && spot != NOWHERE; paces++) {
+            for (int paces = 0; paces <= most && spot != NOWHERE; paces++) {
                 if (canEnd(index, spot, paces)) {
                     layer(clue, leg + 1).add(spot);
                 }
-                spot = nextSpot(index, spot, paces);
+                spot = step(spot, data.clues.bearings.get(index));
             }
         }
 
-        /** Whether a leg can end on the spot at which it is after so many paces. */
+        /** Whether a leg can end on the spot at which it is after so many paces, up to its most. */
         private boolean canEnd(int index, int spot, int paces) {
             Clues clues = data.clues;
             int kind = clues.kinds.get(index);
             if (kind == GO) {
-                return paces >= clues.fewestPaces.get(index) && paces <= clues.mostPaces.get(index);
+                return paces >= clues.fewestPaces.get(index);
             } else if (kind == TO) {
                 return spot == clues.goals.get(index);
             } else {
-                return paces < MOST_PACES && step(spot, clues.bearings.get(index)) == NOWHERE;
+                return step(spot, clues.bearings.get(index)) == NOWHERE;
             }
-        }
-
-        /** The spot behind the next pace of a leg; NOWHERE if it makes none. */
-        private int nextSpot(int index, int spot, int paces) {
-            Clues clues = data.clues;
-            int kind = clues.kinds.get(index);
-            boolean isOver = kind == GO && paces >= clues.mostPaces.get(index)
-                    || kind == TO && spot == clues.goals.get(index);
-            return isOver ? NOWHERE : step(spot, clues.bearings.get(index));
         }
 
         private int startSpot(int clue, int place) {
@@ -1056,7 +1051,7 @@ public final class TreasureWalk {
         }
 
         Cells region(int clue) {
-            return layer(clue, data.clues.legCounts.get(clue));
+            return layers.at(clue * (MOST_LEGS + 1) + data.clues.legCounts.get(clue));
         }
 
         int countStarts(int clue, int goal) {
@@ -1103,12 +1098,13 @@ public final class TreasureWalk {
         /** The fewest paces of a leg behind which the rest leads to the goal; -1 if there are none. */
         private int fewestPaces(int clue, int leg, int from) {
             int index = clue * MOST_LEGS + leg;
+            int most = data.clues.mostPaces.get(index);
             int spot = from;
-            for (int paces = 0; paces <= MOST_PACES && spot != NOWHERE; paces++) {
+            for (int paces = 0; paces <= most && spot != NOWHERE; paces++) {
                 if (ways.at(leg + 1).has(spot) && canEnd(index, spot, paces)) {
                     return paces;
                 }
-                spot = nextSpot(index, spot, paces);
+                spot = step(spot, data.clues.bearings.get(index));
             }
             return -1;
         }

@@ -16,6 +16,7 @@ public final class ChangeTests {
         hideRange();
         turns();
         turnRange();
+        undoOfHide();
         undoEachChange();
         undoEight();
         undoBehindUndo();
@@ -180,6 +181,21 @@ public final class ChangeTests {
         Check.illegal("turn(0, 4)", () -> walk.turn(0, 4));
         Check.illegal("turn(0, -4)", () -> walk.turn(0, -4));
         Check.answers(2, "turn(0, 3)", () -> walk.turn(0, 3));
+    }
+
+    private static void undoOfHide() {
+        TreasureWalk walk = Check.loaded("walk 3 1;team 1 0;");
+        walk.hide(1);
+        walk.hide(2);
+        walk.undo();
+        Check.answers(2, "the chest is where it was", () -> walk.dig());
+        walk.hide(0);
+        walk.undo();
+        Check.answers(2, "the chest is found as it was", () -> walk.state(12));
+        walk.undo();
+        walk.undo();
+        Check.answers(0, "there is no chest as ahead of all", () -> walk.state(12));
+        Check.answers(1, "nothing is found", () -> walk.dig());
     }
 
     private static void undoEachChange() {

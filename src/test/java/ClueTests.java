@@ -12,6 +12,7 @@ public final class ClueTests {
 
     public static void main(String[] args) {
         goReaches();
+        goByEachBearing();
         toReaches();
         endReaches();
         sixtyPaces();
@@ -22,6 +23,7 @@ public final class ClueTests {
         whyTellsTheFirstClue();
         walkIsTheFirstOne();
         walkPrefersEarlyLegs();
+        walkOfEightLegs();
         walkRange();
         startsAreCounted();
         startsRange();
@@ -63,6 +65,15 @@ public final class ClueTests {
         reaches(far, 2, 2, 6, 6);
         region(far, 3, "0,0 1,0 2,0 0,1 1,1 2,1 0,2 1,2 2,2");
         reaches(far, 3, 1, 3, 9);
+    }
+
+    private static void goByEachBearing() {
+        String[] bearings = {"n", "ne", "e", "se", "s", "sw", "w", "nw"};
+        String[] due = {"2,0", "4,0", "4,2", "4,4", "2,4", "0,4", "0,2", "0,0"};
+        for (int i = 0; i < 8; i++) {
+            TreasureWalk walk = Check.loaded("walk 5 5;mark a 2 2;clue a go 2 " + bearings[i] + ";");
+            region(walk, 0, due[i]);
+        }
     }
 
     private static void toReaches() {
@@ -196,6 +207,20 @@ public final class ClueTests {
             Check.answers(second[i], "over a mark, leg " + i, () -> walk.walk(1, 4, 1, leg));
             Check.answers(third[i], "as few as lead there, leg " + i, () -> walk.walk(2, 8, 0, leg));
         }
+    }
+
+    private static void walkOfEightLegs() {
+        TreasureWalk walk = Check.loaded("walk 9 9;mark a 0 0;mark b 8 8;clue a;clue b or a go 1 e give 1 "
+                + "go 1 s give 1 go 1 e give 1 go 1 s give 1 go 1 e go 0 n go 3 s give 3 end se;");
+        int[] east = {2, 0, 2, 0, 1, 0, 0, 3};
+        int[] south = {0, 0, 0, 2, 1, 0, 6, 0};
+        for (int i = 0; i < 8; i++) {
+            int leg = i;
+            Check.answers(east[i], "walk to the east, leg " + i, () -> walk.walk(1, 8, 3, leg));
+            Check.answers(south[i], "walk to the south, leg " + i, () -> walk.walk(1, 1, 8, leg));
+        }
+        Check.answers(1, "starts of eight legs", () -> walk.starts(1, 8, 6));
+        reaches(walk, 1, 2, 4, 10, 16, 26, 25, 25, 45, 13);
     }
 
     private static void walkRange() {

@@ -11,6 +11,7 @@ public final class SetupTests {
         appendPutsHighBytesFirst();
         loadTakesLengthsOfTheBuffer();
         loadReplacesAllData();
+        loadForgetsOldClues();
         loadReadsTokensFreely();
         syntaxErrors();
         rangeErrors();
@@ -95,6 +96,20 @@ public final class SetupTests {
         same("load again", walk, then);
     }
 
+    private static void loadForgetsOldClues() {
+        TreasureWalk walk = Check.loaded("walk 9 9;water 0 8 8 8;mark a 0 0;mark b 3 3;bend 0 0 8 8 left 2;"
+                + "clue a or b go 1 e end n;clue b end s;");
+        Check.load(walk, "walk 9 9;mark b 4 4;clue b;clue b go 2 n;");
+        Check.answers(1, "the starts of the new clue", () -> walk.reached(0, 0));
+        Check.illegal("the legs of the new clue", () -> walk.reached(0, 1));
+        Check.answers(true, "where it ends", () -> walk.ends(1, 4, 2));
+        Check.answers(2, "a leg of the new clue", () -> walk.walk(1, 4, 2, 0));
+        Check.answers(81, "cells without clues", () -> {
+            walk.use(0, false);
+            return walk.use(1, false);
+        });
+    }
+
     private static void same(String what, TreasureWalk walk, int[] due) {
         for (int i = 0; i < due.length; i++) {
             int index = i;
@@ -137,6 +152,9 @@ public final class SetupTests {
         bad(-2, 7, "walk   ");
         bad(-2, 0, "wal 1 1;");
         bad(-2, 0, "walkk 1 1;");
+        bad(-2, 0, "walkz 1 1;");
+        bad(-2, 4, "walk{1 1;");
+        bad(-2, 4, "walk`1 1;");
         bad(-2, 0, "Walk 1 1;");
         bad(-2, 4, "walk\t1 1;");
         bad(-2, 5, "walk -1 1;");
@@ -145,6 +163,8 @@ public final class SetupTests {
         bad(-2, 9, "walk 1 1;;");
         bad(-2, 10, "walk 1 1; lake 0 0 0 0;");
         bad(-2, 9, "walk 1 1;1");
+        bad(-2, 8, "walk 1 1/;");
+        bad(-2, 8, "walk 1 1:;");
         badAt(-2, ";", "walk 5 5;water 0 0 1;");
         badAt(-2, "5", "walk 5 5;water 0 0 1 1 5;");
         badAt(-2, "up", "walk 5 5;bend 0 0 1 1 up 1;");
