@@ -37,33 +37,21 @@ public final class ClueTests {
         }
     }
 
-    private static void region(TreasureWalk walk, int clue, String due) {
-        StringBuilder cells = new StringBuilder();
-        for (int y = 0; y < walk.state(1); y++) {
-            for (int x = 0; x < walk.state(0); x++) {
-                if (walk.ends(clue, x, y)) {
-                    cells.append(x).append(',').append(y).append(' ');
-                }
-            }
-        }
-        Check.answers(due, "region " + clue, () -> cells.toString().trim());
-    }
-
     private static void goReaches() {
         TreasureWalk walk = Check.loaded("walk 6 4;mark a 1 1;water 5 1 5 1;"
                 + "clue a go 2 e;clue a go 2 e give 1;clue a go 1 e give 5;clue a go 9 e go 0 e;");
-        region(walk, 0, "3,1");
-        region(walk, 1, "2,1 3,1 4,1");
-        region(walk, 2, "1,1 2,1 3,1 4,1");
+        Check.region(walk, 0, "3,1");
+        Check.region(walk, 1, "2,1 3,1 4,1");
+        Check.region(walk, 2, "1,1 2,1 3,1 4,1");
         reaches(walk, 3, 1, 0, 0);
         TreasureWalk far = Check.loaded("walk 6 4;mark a 0 0;mark b 3 0;"
                 + "clue a go 7 e give 2;clue a go 8 e give 2;clue b or a go 2 s give 1 go 0 ne;"
                 + "clue a go 1 e give 1 go 1 s give 1;");
-        region(far, 0, "5,0");
-        region(far, 1, "");
-        region(far, 2, "0,1 3,1 0,2 3,2 0,3 3,3");
+        Check.region(far, 0, "5,0");
+        Check.region(far, 1, "");
+        Check.region(far, 2, "0,1 3,1 0,2 3,2 0,3 3,3");
         reaches(far, 2, 2, 6, 6);
-        region(far, 3, "0,0 1,0 2,0 0,1 1,1 2,1 0,2 1,2 2,2");
+        Check.region(far, 3, "0,0 1,0 2,0 0,1 1,1 2,1 0,2 1,2 2,2");
         reaches(far, 3, 1, 3, 9);
     }
 
@@ -72,45 +60,47 @@ public final class ClueTests {
         String[] due = {"2,0", "4,0", "4,2", "4,4", "2,4", "0,4", "0,2", "0,0"};
         for (int i = 0; i < 8; i++) {
             TreasureWalk walk = Check.loaded("walk 5 5;mark a 2 2;clue a go 2 " + bearings[i] + ";");
-            region(walk, 0, due[i]);
+            Check.region(walk, 0, due[i]);
         }
     }
 
     private static void toReaches() {
         TreasureWalk walk = Check.loaded("walk 5 4;mark a 0 0;mark b 3 0;mark c 0 3;water 4 3 4 3;"
                 + "clue a to b e;clue a to a n;clue a or b or c to b e;clue a to c e;");
-        region(walk, 0, "3,0");
-        region(walk, 1, "0,0");
-        region(walk, 2, "3,0");
-        region(walk, 3, "");
+        Check.region(walk, 0, "3,0");
+        Check.region(walk, 1, "0,0");
+        Check.region(walk, 2, "3,0");
+        Check.region(walk, 3, "");
         TreasureWalk edge = Check.loaded("walk 5 1;mark a 0 0;mark b 4 0;mark c 2 0;water 3 0 3 0;"
                 + "clue a to b e;clue a to c e;clue b to b w go 1 w;");
-        region(edge, 0, "");
-        region(edge, 1, "2,0");
+        Check.region(edge, 0, "");
+        Check.region(edge, 1, "2,0");
         reaches(edge, 2, 1, 1, 0);
     }
 
     private static void endReaches() {
         TreasureWalk walk = Check.loaded("walk 5 4;mark a 0 0;mark b 2 1;water 4 1 4 1;water 3 2 3 2;"
                 + "clue a end e;clue b end e end e;clue b end se;clue a or b end s;");
-        region(walk, 0, "4,0");
-        region(walk, 1, "3,1");
-        region(walk, 2, "2,1");
-        region(walk, 3, "0,3 2,3");
+        Check.region(walk, 0, "4,0");
+        Check.region(walk, 1, "3,1");
+        Check.region(walk, 2, "2,1");
+        Check.region(walk, 3, "0,3 2,3");
     }
 
     private static void sixtyPaces() {
-        TreasureWalk to = Check.loaded(RING + "mark a 0 0;mark b 1 0;mark c 0 16;mark d 0 15;"
-                + "clue a to c e;clue a to d e;clue b to d e;clue a or b to d e;");
-        region(to, 0, "0,16");
+        String toText = RING + "mark a 0 0;mark b 1 0;mark c 0 16;mark d 0 15;"
+                + "clue a to c e;clue a to d e;clue b to d e;clue a or b to d e;";
+        Check.region(toText, 0, "0,16");
+        Check.region(toText, 1, "");
+        Check.region(toText, 2, "0,15");
+        TreasureWalk to = Check.loaded(toText);
         Check.answers(60, "60 paces to a mark", () -> to.walk(0, 0, 16, 0));
-        region(to, 1, "");
-        region(to, 2, "0,15");
         Check.answers(1, "one start is too far", () -> to.starts(3, 0, 15));
-        TreasureWalk end = Check.loaded(RING + "mark a 0 0;mark b 1 0;water 0 15 0 15;"
-                + "clue a end e;clue b end e;clue a or b end e;clue a go 30 e go 25 e give 5;");
-        region(end, 0, "");
-        region(end, 1, "0,16");
+        String endText = RING + "mark a 0 0;mark b 1 0;water 0 15 0 15;"
+                + "clue a end e;clue b end e;clue a or b end e;clue a go 30 e go 25 e give 5;";
+        Check.region(endText, 0, "");
+        Check.region(endText, 1, "0,16");
+        TreasureWalk end = Check.loaded(endText);
         Check.answers(59, "59 paces to the end", () -> end.walk(1, 0, 16, 0));
         Check.answers(1, "one start is too far from the end", () -> end.starts(2, 0, 16));
         reaches(end, 3, 1, 1, 11);
@@ -119,10 +109,10 @@ public final class ClueTests {
     private static void millsHaveNoEnd() {
         TreasureWalk walk = Check.loaded(MILL + "clue a end e;clue a to c e;clue a to b e;"
                 + "clue a go 6 e give 2;");
-        region(walk, 0, "");
-        region(walk, 1, "");
-        region(walk, 2, "0,1");
-        region(walk, 3, "0,0 1,0 0,1 1,1");
+        Check.region(walk, 0, "");
+        Check.region(walk, 1, "");
+        Check.region(walk, 2, "0,1");
+        Check.region(walk, 3, "0,0 1,0 0,1 1,1");
         Check.answers(4, "the fewest paces round the mill", () -> walk.walk(3, 0, 0, 0));
         Check.answers(5, "and a pace more", () -> walk.walk(3, 1, 0, 0));
         Check.answers(7, "and three more", () -> walk.walk(3, 0, 1, 0));
@@ -131,7 +121,7 @@ public final class ClueTests {
     private static void startsAreReached() {
         TreasureWalk walk = Check.loaded("walk 4 4;mark a 1 1;mark b 2 2;mark c 1 1;"
                 + "clue a or b or c;clue c or a;clue c or b go 1 e;");
-        region(walk, 0, "1,1 2,2");
+        Check.region(walk, 0, "1,1 2,2");
         reaches(walk, 0, 2);
         reaches(walk, 1, 1);
         reaches(walk, 2, 2, 2);

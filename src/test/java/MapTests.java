@@ -24,29 +24,22 @@ public final class MapTests {
         TreasureWalk walk = rowWalk();
         walk.use(1, false);
         walk.use(2, false);
-        states("ahead", walk, 5, 3, 2, 2, 3, 1, 5, 5, 0, 1, 1, 0, 0);
+        Check.states("ahead", walk, 5, 3, 2, 2, 3, 1, 5, 5, 0, 1, 1, 0, 0);
         walk.moveTo(2, 1);
         walk.hide(7);
         walk.dig();
-        states("a chest found", walk, 5, 3, 2, 2, 3, 1, 5, 4, 1, 2, 7, 1, 2);
+        Check.states("a chest found", walk, 5, 3, 2, 2, 3, 1, 5, 4, 1, 2, 7, 1, 2);
         walk.moveTo(3, 0);
         walk.dig();
         walk.hide(0);
-        states("a chest hidden", walk, 5, 3, 2, 2, 3, 1, 5, 4, 2, 2, 3, 2, 1);
+        Check.states("a chest hidden", walk, 5, 3, 2, 2, 3, 1, 5, 4, 2, 2, 3, 2, 1);
         walk.use(0, false);
-        states("no clue in use", walk, 5, 3, 2, 2, 3, 0, 14, 12, 2, 1, 3, 2, 1);
+        Check.states("no clue in use", walk, 5, 3, 2, 2, 3, 0, 14, 12, 2, 1, 3, 2, 1);
         walk.use(0, true);
         walk.use(2, true);
-        states("no candidate", walk, 5, 3, 2, 2, 3, 2, 0, 0, 2, 0, 3, 2, 1);
+        Check.states("no candidate", walk, 5, 3, 2, 2, 3, 2, 0, 0, 2, 0, 3, 2, 1);
         Check.load(walk, "walk 1 1;");
-        states("behind a load", walk, 1, 1, 0, 0, 0, 0, 1, 1, 0, 1, 0, 0, 0);
-    }
-
-    private static void states(String when, TreasureWalk walk, int... due) {
-        for (int i = 0; i < due.length; i++) {
-            int what = i;
-            Check.answers(due[i], when + ": state(" + i + ")", () -> walk.state(what));
-        }
+        Check.states("behind a load", walk, 1, 1, 0, 0, 0, 0, 1, 1, 0, 1, 0, 0, 0);
     }
 
     private static void stateRange() {

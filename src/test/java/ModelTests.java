@@ -7,14 +7,19 @@ import java.util.Objects;
  * compared with the model's. The runs are the same each time.
  */
 public final class ModelTests {
-    private static final int RUNS = 2500;
+    private static final int RUNS = 3200;
     private static final int CALLS = 90;
+    /** What an object answers behind its 512th call is free: a run ends ahead of it. */
+    private static final int MOST_CALLS = 512;
+    /** More than a row of calls of one kind needs: a load of 600 bytes has 32. */
+    private static final int SPARE_CALLS = 36;
 
     private static final Dice dice = new Dice();
     private static final SetupTexts texts = new SetupTexts(dice);
 
     private static int wrong = 0;
     private static int compared = 0;
+    private static int used = 0;
 
     private ModelTests() {
     }
@@ -33,9 +38,9 @@ public final class ModelTests {
         TreasureWalk walk = new TreasureWalk();
         Model model = new Model();
         List<String> calls = new ArrayList<>();
-        String first = texts.make();
-        compareLoad(walk, model, calls, first);
-        for (int i = 0; i < CALLS && wrong == 0; i++) {
+        used = 0;
+        compareLoad(walk, model, calls, texts.make());
+        for (int i = 0; i < CALLS && wrong == 0 && used < MOST_CALLS - SPARE_CALLS; i++) {
             if (dice.below(25) == 0) {
                 compareLoad(walk, model, calls, dice.below(2) == 0 ? texts.make() : texts.spoil(texts.make()));
             } else {
@@ -68,6 +73,7 @@ public final class ModelTests {
         Object got = Check.answerOf(call);
         Object due = Check.answerOf(modelCall);
         compared++;
+        used++;
         calls.add(name + " -> " + got);
         if (!Objects.equals(got, due)) {
             wrong++;
@@ -76,16 +82,19 @@ public final class ModelTests {
     }
 
     private static void compareCall(TreasureWalk walk, Model model, List<String> calls) {
-        int width = walk.state(0);
-        int height = walk.state(1);
+        int width = model.state(0);
+        int height = model.state(1);
         int x = dice.below(20) == 0 ? dice.oneOf(-1, width) : dice.below(width);
         int y = dice.below(20) == 0 ? dice.oneOf(-1, height) : dice.below(height);
-        int clue = indexBelow(walk.state(4));
-        int bend = indexBelow(walk.state(3));
+        int clue = indexBelow(model.state(4));
+        int bend = indexBelow(model.state(3));
         int small = dice.below(9) - 1;
         String cell = x + ", " + y;
         switch (dice.below(25)) {
-            case 0 -> same(calls, "state", () -> walk.state(small + 3), () -> model.state(small + 3));
+            case 0 -> {
+                int what = dice.below(15) - 1;
+                same(calls, "state(" + what + ")", () -> walk.state(what), () -> model.state(what));
+            }
             case 1 -> same(calls, "cell(" + cell + ")", () -> walk.cell(x, y), () -> model.cell(x, y));
             case 2 -> same(calls, "pace(" + cell + ", " + small + ")",
                     () -> walk.pace(x, y, small), () -> model.pace(x, y, small));
@@ -132,9 +141,10 @@ public final class ModelTests {
 
     /** Compares the walks and starts to the cells of a clue's region, but to some others too. */
     private static void compareWalks(TreasureWalk walk, Model model, List<String> calls, int clue) {
-        int width = walk.state(0);
+        int width = model.state(0);
+        int cells = width * model.state(1);
         int skip = 1 + dice.below(7);
-        for (int cell = dice.below(skip); cell < width * walk.state(1); cell += skip) {
+        for (int cell = dice.below(skip); cell < cells && used < MOST_CALLS - SPARE_CALLS; cell += skip) {
             int x = cell % width;
             int y = cell / width;
             int leg = dice.below(3);

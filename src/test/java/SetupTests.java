@@ -27,10 +27,7 @@ public final class SetupTests {
     private static void newObject() {
         TreasureWalk walk = new TreasureWalk();
         int[] due = {1, 1, 0, 0, 0, 0, 1, 1, 0, 1, 0, 0, 0};
-        for (int i = 0; i < due.length; i++) {
-            int what = i;
-            Check.answers(due[i], "new: state(" + i + ")", () -> walk.state(what));
-        }
+        Check.states("new", walk, due);
         Check.answers(3, "new: cell(0, 0)", () -> walk.cell(0, 0));
         Check.outside("new: cell(1, 0)", () -> walk.cell(1, 0));
         Check.outside("new: cell(0, 1)", () -> walk.cell(0, 1));
@@ -86,14 +83,14 @@ public final class SetupTests {
         TreasureWalk walk = Check.loaded("walk 4 3;water 0 0 1 0;mark a 3 2;mark h 2 0;"
                 + "bend 0 0 3 2 left 1;team 1 1;clue a or h;clue h go 1 s;");
         int[] due = {4, 3, 2, 1, 2, 2, 0, 0, 0, 0, 5, 0, 0};
-        same("load", walk, due);
+        Check.states("load", walk, due);
         walk.use(0, false);
         walk.hide(0);
         walk.dig();
         walk.moveTo(3, 2);
         Check.answers(0, "load again", () -> Check.load(walk, "walk 3 2;water 0 0 0 1;"));
         int[] then = {3, 2, 0, 0, 0, 0, 4, 4, 0, 1, 1, 0, 0};
-        same("load again", walk, then);
+        Check.states("load again", walk, then);
     }
 
     private static void loadForgetsOldClues() {
@@ -110,119 +107,95 @@ public final class SetupTests {
         });
     }
 
-    private static void same(String what, TreasureWalk walk, int[] due) {
-        for (int i = 0; i < due.length; i++) {
-            int index = i;
-            Check.answers(due[i], what + ": state(" + i + ")", () -> walk.state(index));
-        }
-    }
-
     private static void loadReadsTokensFreely() {
-        good(0, "walk3 4;");
-        good(0, "   walk   3   4   ;   ");
-        good(0, "walk 0000000000000000000000000000000000020 00000000001;");
-        good(1, "walk9 9;mark a1 1;mark b2 2;clue a or b go3e give2 to b se end n;");
-        good(1, "walk 1 1;mark e 0 0;clue e to e e;");
-        good(0, "walk 5 5;water 0 0 1 1;water 0 0 1 1;");
-        good(1, MARKED + "clue a go 0 n give 0 go 30 ne give 5 go 1 e go 1 se go 1 s go 1 sw end w end nw;");
-        good(0, "walk 5 5;mark a 0 0;mark b 0 0;mark c 0 0;mark d 0 0;mark e 0 0;mark f 0 0;"
+        Check.good(0, "walk3 4;");
+        Check.good(0, "   walk   3   4   ;   ");
+        Check.good(0, "walk 0000000000000000000000000000000000020 00000000001;");
+        Check.good(1, "walk9 9;mark a1 1;mark b2 2;clue a or b go3e give2 to b se end n;");
+        Check.good(1, "walk 1 1;mark e 0 0;clue e to e e;");
+        Check.good(0, "walk 5 5;water 0 0 1 1;water 0 0 1 1;");
+        Check.good(1, MARKED + "clue a go 0 n give 0 go 30 ne give 5 go 1 e go 1 se go 1 s go 1 sw end w end nw;");
+        Check.good(0, "walk 5 5;mark a 0 0;mark b 0 0;mark c 0 0;mark d 0 0;mark e 0 0;mark f 0 0;"
                 + "mark g 0 0;mark h 0 0;");
-        good(4, MARKED + "clue a;clue a;clue a;clue a;");
-    }
-
-    private static void good(int clues, String text) {
-        TreasureWalk walk = new TreasureWalk();
-        Check.answers(clues, text, () -> Check.load(walk, text));
-        Check.answers(-1, text + " (errorOffset)", () -> walk.errorOffset());
-    }
-
-    private static void bad(int code, int offset, String text) {
-        TreasureWalk walk = new TreasureWalk();
-        Check.answers(code, text, () -> Check.load(walk, text));
-        Check.answers(offset, text + " (errorOffset)", () -> walk.errorOffset());
-    }
-
-    /** The error must be at the last appearance of a piece of the text. */
-    private static void badAt(int code, String piece, String text) {
-        bad(code, text.lastIndexOf(piece), text);
+        Check.good(4, MARKED + "clue a;clue a;clue a;clue a;");
     }
 
     private static void syntaxErrors() {
-        bad(-2, 4, "walk");
-        bad(-2, 7, "walk   ");
-        bad(-2, 0, "wal 1 1;");
-        bad(-2, 0, "walkk 1 1;");
-        bad(-2, 0, "walkz 1 1;");
-        bad(-2, 4, "walk{1 1;");
-        bad(-2, 4, "walk`1 1;");
-        bad(-2, 0, "Walk 1 1;");
-        bad(-2, 4, "walk\t1 1;");
-        bad(-2, 5, "walk -1 1;");
-        bad(-2, 8, "walk 1 1");
-        bad(-2, 9, "walk 1 1 1;");
-        bad(-2, 9, "walk 1 1;;");
-        bad(-2, 10, "walk 1 1; lake 0 0 0 0;");
-        bad(-2, 9, "walk 1 1;1");
-        bad(-2, 8, "walk 1 1/;");
-        bad(-2, 8, "walk 1 1:;");
-        badAt(-2, ";", "walk 5 5;water 0 0 1;");
-        badAt(-2, "5", "walk 5 5;water 0 0 1 1 5;");
-        badAt(-2, "up", "walk 5 5;bend 0 0 1 1 up 1;");
-        badAt(-2, "lefty", "walk 5 5;bend 0 0 1 1 lefty 1;");
-        badAt(-2, ";", "walk 5 5;bend 0 0 1 1 left;");
-        badAt(-2, "i", "walk 5 5;mark i 0 0;");
-        badAt(-2, "aa", "walk 5 5;mark aa 0 0;");
-        badAt(-2, "0 0", "walk 5 5;mark 0 0;");
-        badAt(-2, "team", "walk 5 5;team 0 0;team 1 1;");
-        badAt(-2, "or", MARKED + "clue or a;");
-        badAt(-2, ";", MARKED + "clue a or;");
-        badAt(-2, "a;", MARKED + "clue a a;");
-        badAt(-2, "or a", MARKED + "clue a end e or a;");
-        badAt(-2, "e;", MARKED + "clue a go e;");
-        badAt(-2, "x", MARKED + "clue a go 1 x;");
-        badAt(-2, "nn", MARKED + "clue a end nn;");
-        badAt(-2, "end;", MARKED + "clue a end end;");
-        badAt(-2, "give", MARKED + "clue a to a e give 1;");
-        badAt(-2, "give 2", MARKED + "clue a go 1 e give 1 give 2;");
-        badAt(-2, ";", MARKED + "clue a go 1 e give;");
-        badAt(-2, "goe", MARKED + "clue a goe;");
-        badAt(-2, "1", MARKED + "clue a to 1 e;");
+        Check.bad(-2, 4, "walk");
+        Check.bad(-2, 7, "walk   ");
+        Check.bad(-2, 0, "wal 1 1;");
+        Check.bad(-2, 0, "walkk 1 1;");
+        Check.bad(-2, 0, "walkz 1 1;");
+        Check.bad(-2, 4, "walk{1 1;");
+        Check.bad(-2, 4, "walk`1 1;");
+        Check.bad(-2, 0, "Walk 1 1;");
+        Check.bad(-2, 4, "walk\t1 1;");
+        Check.bad(-2, 5, "walk -1 1;");
+        Check.bad(-2, 8, "walk 1 1");
+        Check.bad(-2, 9, "walk 1 1 1;");
+        Check.bad(-2, 9, "walk 1 1;;");
+        Check.bad(-2, 10, "walk 1 1; lake 0 0 0 0;");
+        Check.bad(-2, 9, "walk 1 1;1");
+        Check.bad(-2, 8, "walk 1 1/;");
+        Check.bad(-2, 8, "walk 1 1:;");
+        Check.badAt(-2, ";", "walk 5 5;water 0 0 1;");
+        Check.badAt(-2, "5", "walk 5 5;water 0 0 1 1 5;");
+        Check.badAt(-2, "up", "walk 5 5;bend 0 0 1 1 up 1;");
+        Check.badAt(-2, "lefty", "walk 5 5;bend 0 0 1 1 lefty 1;");
+        Check.badAt(-2, ";", "walk 5 5;bend 0 0 1 1 left;");
+        Check.badAt(-2, "i", "walk 5 5;mark i 0 0;");
+        Check.badAt(-2, "aa", "walk 5 5;mark aa 0 0;");
+        Check.badAt(-2, "0 0", "walk 5 5;mark 0 0;");
+        Check.badAt(-2, "team", "walk 5 5;team 0 0;team 1 1;");
+        Check.badAt(-2, "or", MARKED + "clue or a;");
+        Check.badAt(-2, ";", MARKED + "clue a or;");
+        Check.badAt(-2, "a;", MARKED + "clue a a;");
+        Check.badAt(-2, "or a", MARKED + "clue a end e or a;");
+        Check.badAt(-2, "e;", MARKED + "clue a go e;");
+        Check.badAt(-2, "x", MARKED + "clue a go 1 x;");
+        Check.badAt(-2, "nn", MARKED + "clue a end nn;");
+        Check.badAt(-2, "end;", MARKED + "clue a end end;");
+        Check.badAt(-2, "give", MARKED + "clue a to a e give 1;");
+        Check.badAt(-2, "give 2", MARKED + "clue a go 1 e give 1 give 2;");
+        Check.badAt(-2, ";", MARKED + "clue a go 1 e give;");
+        Check.badAt(-2, "goe", MARKED + "clue a goe;");
+        Check.badAt(-2, "1", MARKED + "clue a to 1 e;");
     }
 
     private static void rangeErrors() {
-        bad(-3, 5, "walk 0 1;");
-        bad(-3, 5, "walk 21 1;");
-        bad(-3, 7, "walk 1 0;");
-        bad(-3, 7, "walk 1 21;");
-        bad(-3, 5, "walk 4294967297 1;");
-        bad(-3, 5, "walk 18446744073709551617 1;");
-        bad(-3, 7, "walk 1 0000000000000000000000000000021");
-        badAt(-3, "4 0 4", "walk 4 5;water 4 0 4 0;");
-        badAt(-3, "5 0 5", "walk 4 5;water 0 5 0 5;");
-        badAt(-3, "4 0;", "walk 4 5;water 0 0 4 0;");
-        badAt(-3, "5;", "walk 4 5;water 0 0 0 5;");
-        badAt(-3, "1 2;", "walk 4 5;water 2 2 1 2;");
-        badAt(-3, "1 left", "walk 4 5;bend 2 2 2 1 left 1;");
-        badAt(-3, "0;", "walk 4 5;bend 0 0 0 0 left 0;");
-        badAt(-3, "4;", "walk 4 5;bend 0 0 0 0 right 4;");
-        badAt(-3, "4 0", "walk 4 5;mark a 4 0;");
-        badAt(-3, "5;", "walk 4 5;mark a 0 5;");
-        badAt(-3, "4 0", "walk 4 5;team 4 0;");
-        badAt(-3, "5;", "walk 4 5;team 0 5;");
-        badAt(-3, "31", MARKED + "clue a go 31 e;");
-        badAt(-3, "6", MARKED + "clue a go 30 e give 6;");
+        Check.bad(-3, 5, "walk 0 1;");
+        Check.bad(-3, 5, "walk 21 1;");
+        Check.bad(-3, 7, "walk 1 0;");
+        Check.bad(-3, 7, "walk 1 21;");
+        Check.bad(-3, 5, "walk 4294967297 1;");
+        Check.bad(-3, 5, "walk 18446744073709551617 1;");
+        Check.bad(-3, 7, "walk 1 0000000000000000000000000000021");
+        Check.badAt(-3, "4 0 4", "walk 4 5;water 4 0 4 0;");
+        Check.badAt(-3, "5 0 5", "walk 4 5;water 0 5 0 5;");
+        Check.badAt(-3, "4 0;", "walk 4 5;water 0 0 4 0;");
+        Check.badAt(-3, "5;", "walk 4 5;water 0 0 0 5;");
+        Check.badAt(-3, "1 2;", "walk 4 5;water 2 2 1 2;");
+        Check.badAt(-3, "1 left", "walk 4 5;bend 2 2 2 1 left 1;");
+        Check.badAt(-3, "0;", "walk 4 5;bend 0 0 0 0 left 0;");
+        Check.badAt(-3, "4;", "walk 4 5;bend 0 0 0 0 right 4;");
+        Check.badAt(-3, "4 0", "walk 4 5;mark a 4 0;");
+        Check.badAt(-3, "5;", "walk 4 5;mark a 0 5;");
+        Check.badAt(-3, "4 0", "walk 4 5;team 4 0;");
+        Check.badAt(-3, "5;", "walk 4 5;team 0 5;");
+        Check.badAt(-3, "31", MARKED + "clue a go 31 e;");
+        Check.badAt(-3, "6", MARKED + "clue a go 30 e give 6;");
     }
 
     private static void markErrors() {
-        badAt(-4, "a 1", MARKED + "mark a 1 1;");
-        badAt(-4, "a;", MARKED + "clue a or a;");
-        badAt(-4, "a;", MARKED + "mark b 0 0;clue a or b or a;");
-        badAt(-5, "b", MARKED + "clue b;");
-        badAt(-5, "b", MARKED + "clue a or b;");
-        badAt(-5, "b", MARKED + "clue a to b e;");
-        bad(-5, 25, MARKED + "clue b;mark b 0 0;");
-        bad(-5, 14, "walk 5 5;clue a or a;");
-        good(2, MARKED + "clue a to a e to a e;clue a;");
+        Check.badAt(-4, "a 1", MARKED + "mark a 1 1;");
+        Check.badAt(-4, "a;", MARKED + "clue a or a;");
+        Check.badAt(-4, "a;", MARKED + "mark b 0 0;clue a or b or a;");
+        Check.badAt(-5, "b", MARKED + "clue b;");
+        Check.badAt(-5, "b", MARKED + "clue a or b;");
+        Check.badAt(-5, "b", MARKED + "clue a to b e;");
+        Check.bad(-5, 25, MARKED + "clue b;mark b 0 0;");
+        Check.bad(-5, 14, "walk 5 5;clue a or a;");
+        Check.good(2, MARKED + "clue a to a e to a e;clue a;");
     }
 
     private static void countErrors() {
@@ -230,46 +203,46 @@ public final class SetupTests {
         for (int i = 0; i < 8; i++) {
             bends.append("bend 0 0 0 0 left 1;");
         }
-        good(0, bends.toString());
-        bad(-6, bends.length(), bends + "bend?");
-        bad(-2, bends.length(), bends + "bended 0 0 0 0 left 1;");
+        Check.good(0, bends.toString());
+        Check.bad(-6, bends.length(), bends + "bend?");
+        Check.bad(-2, bends.length(), bends + "bended 0 0 0 0 left 1;");
         String clues = MARKED + "clue a;clue a;clue a;clue a;";
-        bad(-6, clues.length() + 1, clues + " clue b;");
+        Check.bad(-6, clues.length() + 1, clues + " clue b;");
         StringBuilder legs = new StringBuilder(MARKED + "clue a");
         for (int i = 0; i < 8; i++) {
             legs.append(" end e");
         }
-        good(1, legs + ";");
-        bad(-6, legs.length() + 1, legs + " go 99 x;");
-        bad(-6, legs.length() + 1, legs + " to b;");
-        bad(-6, legs.length() + 1, legs + " end");
-        bad(-2, legs.length() + 1, legs + " gone");
+        Check.good(1, legs + ";");
+        Check.bad(-6, legs.length() + 1, legs + " go 99 x;");
+        Check.bad(-6, legs.length() + 1, legs + " to b;");
+        Check.bad(-6, legs.length() + 1, legs + " end");
+        Check.bad(-2, legs.length() + 1, legs + " gone");
     }
 
     private static void wetErrors() {
         String lake = "walk 5 5;water 1 1 3 3;";
-        badAt(-7, "1 1;", lake + "mark a 1 1;");
-        badAt(-7, "3 3;", lake + "mark a 3 3;");
-        badAt(-7, "2 2;", lake + "team 2 2;");
-        good(0, lake + "mark a 4 3;team 0 1;");
-        badAt(-7, "0 0 0 4", "walk 5 5;mark h 0 4;water 0 0 0 4;");
-        badAt(-7, "0 0 0 4", "walk 5 5;team 0 0;water 0 0 0 4;");
-        good(0, "walk 5 5;mark a 1 1;team 3 3;water 0 0 4 0;water 2 0 2 4;water 0 2 4 2;");
-        badAt(-7, ";", "walk 5 5;water 0 0 4 4;");
-        badAt(-7, ";", "walk 5 5;water 0 0 4 3;water 0 4 3 4;water 4 4 4 4 ;");
-        good(0, "walk 5 5;water 0 0 4 3;water 0 4 3 4;");
+        Check.badAt(-7, "1 1;", lake + "mark a 1 1;");
+        Check.badAt(-7, "3 3;", lake + "mark a 3 3;");
+        Check.badAt(-7, "2 2;", lake + "team 2 2;");
+        Check.good(0, lake + "mark a 4 3;team 0 1;");
+        Check.badAt(-7, "0 0 0 4", "walk 5 5;mark h 0 4;water 0 0 0 4;");
+        Check.badAt(-7, "0 0 0 4", "walk 5 5;team 0 0;water 0 0 0 4;");
+        Check.good(0, "walk 5 5;mark a 1 1;team 3 3;water 0 0 4 0;water 2 0 2 4;water 0 2 4 2;");
+        Check.badAt(-7, ";", "walk 5 5;water 0 0 4 4;");
+        Check.badAt(-7, ";", "walk 5 5;water 0 0 4 3;water 0 4 3 4;water 4 4 4 4 ;");
+        Check.good(0, "walk 5 5;water 0 0 4 3;water 0 4 3 4;");
     }
 
     private static void firstErrorCounts() {
-        badAt(-3, "9;", "walk 5 5;water 0 0 0 0;mark a 0 9;");
-        badAt(-7, "0 0;", "walk 5 5;water 0 0 0 0;mark a 0 0;");
-        badAt(-7, "0 0?", "walk 5 5;water 0 0 0 0;mark a 0 0?");
-        badAt(-3, "9?", "walk 5 5;mark a 0 0;water 0 0 0 9?");
-        badAt(-7, "0 0 1 1?", "walk 5 5;mark a 0 0;water 0 0 1 1?");
-        badAt(-7, "0 0 4 4;", "walk 5 5;mark a 0 0;water 0 0 4 4;");
-        badAt(-2, "?", "walk 5 5;water 0 0 4 4?");
-        badAt(-4, "a 9", MARKED + "mark a 9 9;");
-        bad(-2, 18, "walk 5 5;team 0 0;team 9 9;");
+        Check.badAt(-3, "9;", "walk 5 5;water 0 0 0 0;mark a 0 9;");
+        Check.badAt(-7, "0 0;", "walk 5 5;water 0 0 0 0;mark a 0 0;");
+        Check.badAt(-7, "0 0?", "walk 5 5;water 0 0 0 0;mark a 0 0?");
+        Check.badAt(-3, "9?", "walk 5 5;mark a 0 0;water 0 0 0 9?");
+        Check.badAt(-7, "0 0 1 1?", "walk 5 5;mark a 0 0;water 0 0 1 1?");
+        Check.badAt(-7, "0 0 4 4;", "walk 5 5;mark a 0 0;water 0 0 4 4;");
+        Check.badAt(-2, "?", "walk 5 5;water 0 0 4 4?");
+        Check.badAt(-4, "a 9", MARKED + "mark a 9 9;");
+        Check.bad(-2, 18, "walk 5 5;team 0 0;team 9 9;");
     }
 
     private static void errorLeavesData() {
