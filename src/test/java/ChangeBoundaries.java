@@ -37,7 +37,8 @@ final class ChangeBoundaries {
     }
 
     private static void changesThatChangeNothing() {
-        Check.sentence("each such call that does not throw an exception is a change, also if all data stay as they were.");
+        Check.sentence("each such call that does not throw an exception is a change, "
+                + "also if all data stay as they were.");
         TreasureWalk loads = Check.loaded("walk 1 1;");
         undoes(loads, 1);
         Check.load(loads, "walk 1 1;");
@@ -325,7 +326,8 @@ final class ChangeBoundaries {
     }
 
     private static void theFirstOfSeveralExceptions() {
-        Check.sentence("If several exceptions apply to a call, the one that is listed first with the method is thrown.");
+        Check.sentence("If several exceptions apply to a call, "
+                + "the one that is listed first with the method is thrown.");
         TreasureWalk walk = Check.loaded(MAP);
         Check.outside("pace: no cell and no bearing", () -> walk.pace(6, 0, 8));
         Check.outside("pace: no cell and no bearing", () -> walk.pace(0, -1, -1));

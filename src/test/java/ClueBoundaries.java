@@ -217,8 +217,8 @@ final class ClueBoundaries {
 
     private static void startsCounted() {
         Check.sentence("Returns the number of the starts of the clue from which some walk of it ends at the cell.");
-        TreasureWalk walk = Check.loaded("walk 9 1;water 8 0 8 0;mark a 0 0;mark b 1 0;mark c 2 0;mark d 3 0;mark e 4 0;"
-                + "mark f 5 0;mark g 6 0;mark h 6 0;"
+        TreasureWalk walk = Check.loaded("walk 9 1;water 8 0 8 0;mark a 0 0;mark b 1 0;mark c 2 0;"
+                + "mark d 3 0;mark e 4 0;mark f 5 0;mark g 6 0;mark h 6 0;"
                 + "clue a or b or c or d or e or f or g or h go 3 e give 3;clue h or g;clue a or b to c e;"
                 + "clue a or e or h go 1 e give 1 go 1 w give 1;");
         counts(walk, 0, "1 2 3 4 5 6 8 7 0");

@@ -341,8 +341,8 @@ final class DeedBoundaries {
     }
 
     private static void undoWithoutAChange() {
-        Check.sentence("Returns the number of changes that can still be undone; -1 if there was none to undo, and nothing "
-                + "changes then.");
+        Check.sentence("Returns the number of changes that can still be undone; -1 if there was none to undo, "
+                + "and nothing changes then.");
         TreasureWalk fresh = new TreasureWalk();
         Check.answers(-1, "a new object", () -> fresh.undo());
         Check.answers(-1, "and again", () -> fresh.undo());
@@ -411,8 +411,9 @@ final class DeedBoundaries {
     }
 
     private static void checksumsOfClues() {
-        Check.sentence("state(0) to state(12); for each cell, in order, what cell(int, int) tells of it; for each clue 1 "
-                + "if it is in use, otherwise 0, and reached(int, int) for 0, 1 and so on up to all of its legs.");
+        Check.sentence("state(0) to state(12); for each cell, in order, what cell(int, int) tells of it; "
+                + "for each clue 1 if it is in use, otherwise 0, and reached(int, int) for 0, 1 and so on "
+                + "up to all of its legs.");
         TreasureWalk walk = Check.loaded("walk 5 4;water 2 1 3 1;mark a 0 0;mark b 4 3;bend 0 0 1 3 left 1;"
                 + "clue a;clue b or a" + " go 1 n give 2".repeat(8) + ";clue a go 2 e give 2 end s;clue b to b n;");
         int[] legs = {0, 8, 2, 1};

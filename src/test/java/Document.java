@@ -2,6 +2,7 @@ import java.io.IOException;
 import java.nio.file.Files;
 import java.nio.file.Path;
 import java.util.ArrayList;
+import java.util.Collections;
 import java.util.List;
 
 /** The document's sentences from its terms to its last promise. */
@@ -37,15 +38,17 @@ final class Document {
     private Document() {
     }
 
-    /** Each sentence told in the tests must stand in the document, and each of it be told or be plain. */
+    /** Each sentence told in the tests must stand in the document, and each of its own be told or be plain. */
     static void compareWith(List<String> told) throws IOException {
         String text = Files.readString(FILE).replaceAll(" +", " ");
         for (String sentence : told) {
             Check.answers(true, "the document has: " + sentence, () -> text.contains(sentence));
         }
-        for (String sentence : sentencesOf(text)) {
-            Check.answers(true, "a test tells: " + sentence,
-                    () -> PLAIN.contains(sentence) || told.stream().anyMatch(sentence::contains));
+        List<String> sentences = sentencesOf(text);
+        for (String sentence : sentences) {
+            int places = Collections.frequency(sentences, sentence);
+            Check.answers(true, "as many tests tell as it stands there: " + sentence,
+                    () -> PLAIN.contains(sentence) || told.stream().filter(sentence::contains).count() >= places);
         }
     }
 

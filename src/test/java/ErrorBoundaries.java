@@ -158,12 +158,13 @@ final class ErrorBoundaries {
         Check.bad(RANGE, 9, "walk 5   21;");
         Check.bad(RANGE, 4, "walk21 5;");
         String head = "walk 5 4;mark a 0 0;";
-        String[] wrongs = {"mark b 005 0;", "mark b 0 004;", "team 5 0;", "team 0 4;", "water 5 0 4 3;", "water 0 4 4 3;",
-            "water 1 1 0 3;", "water 1 1 5 3;", "water 1 1 4 0;", "water 1 1 4 4;", "bend 5 0 4 3 left 1;",
-            "bend 0 4 4 3 left 1;", "bend 1 1 0 3 left 1;", "bend 1 1 4 0 left 1;", "bend 0 0 4 3 left 0;",
-            "bend 0 0 4 3 right 04;", "clue a go 031 e;", "clue a go 1 e give 06;", "clue a go 30 e go 31 e;"};
-        String[] numbers = {"005", "004", "5 0", "4;", "5 0", "4 4", "0 3", "5 3", "0;", "4;", "5 0", "4 4", "0 3", "0 l",
-            "0;", "04", "031", "06", "31"};
+        String[] wrongs = {"mark b 005 0;", "mark b 0 004;", "team 5 0;", "team 0 4;", "water 5 0 4 3;",
+            "water 0 4 4 3;", "water 1 1 0 3;", "water 1 1 5 3;", "water 1 1 4 0;", "water 1 1 4 4;",
+            "bend 5 0 4 3 left 1;", "bend 0 4 4 3 left 1;", "bend 1 1 0 3 left 1;", "bend 1 1 4 0 left 1;",
+            "bend 0 0 4 3 left 0;", "bend 0 0 4 3 right 04;", "clue a go 031 e;", "clue a go 1 e give 06;",
+            "clue a go 30 e go 31 e;"};
+        String[] numbers = {"005", "004", "5 0", "4;", "5 0", "4 4", "0 3", "5 3", "0;", "4;", "5 0", "4 4", "0 3",
+            "0 l", "0;", "04", "031", "06", "31"};
         for (int i = 0; i < wrongs.length; i++) {
             Check.bad(RANGE, head.length() + wrongs[i].lastIndexOf(numbers[i]), head + wrongs[i]);
         }

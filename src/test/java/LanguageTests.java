@@ -14,6 +14,8 @@ import java.util.regex.Pattern;
 public final class LanguageTests {
     private static final Path SOURCE = Path.of("src/main/java/TreasureWalk.java");
     private static final int LONGEST_METHOD = 60;
+    private static final List<String> IMPORTS = List.of("import java.util.ArrayList;", "import java.util.Arrays;",
+            "import java.util.Iterator;", "import java.util.List;", "import java.util.NoSuchElementException;");
 
     private LanguageTests() {
     }
@@ -35,16 +37,18 @@ public final class LanguageTests {
     }
 
     private static void imports(List<String> lines) {
-        List<String> imports = new ArrayList<>(lines);
-        imports.removeIf(line -> !line.startsWith("import ") && !line.startsWith("package "));
-        Check.answers("[import java.util.Arrays;, import java.util.NoSuchElementException;]", "imports",
-                imports::toString);
+        for (String line : lines) {
+            if (line.startsWith("import ") || line.startsWith("package ")) {
+                Check.answers(true, "the rules allow " + line, () -> IMPORTS.contains(line));
+            }
+        }
     }
 
     private static void words(String source) {
-        for (String word : List.of("->", "::", "\\bcatch\\b", "\\btry\\b", "\\bfinally\\b", "\\bassert\\b",
-                "\\bsynchronized\\b", "\\bSystem\\.(?!arraycopy)", "\\bMath\\.\\w+Exact\\b", "\\bfloat\\b",
-                "\\bvar\\b", "\\bprotected\\b", "\\btoString\\b", "\\bhashCode\\b", "\\bObject\\b")) {
+        for (String word : List.of("->", "::", "\\bfinally\\b", "\\bassert\\b", "\\bsynchronized\\b",
+                "catch \\([^)]*(NullPointer|ArrayIndex|ClassCast|NegativeArray|ArrayStore)Exception",
+                "\\bSystem\\.(?!arraycopy)", "\\bMath\\.\\w+Exact\\b", "\\bvar\\b", "\\bprotected\\b",
+                "\\bhashCode\\b", "\\bObject\\b")) {
             Check.answers(false, "the source has " + word, () -> Pattern.compile(word).matcher(source).find());
         }
     }

@@ -133,6 +133,7 @@ final class LoadBoundaries {
         walk.moveTo(0, 0);
         walk.dig();
         walk.hide(3);
+        walk.use(2, true);
         Check.load(walk, "walk 4 2;mark h 1 0;bend 3 0 3 1 right 2;clue h go 1 e;clue h;");
         Check.states("behind a load", walk, 4, 2, 1, 1, 2, 2, 0, 0, 0, 0, 0, 0, 0);
         Check.answers(1, "a leg", () -> walk.walk(0, 2, 0, 0));
@@ -144,8 +145,12 @@ final class LoadBoundaries {
         Check.answers(1, "land where water was", () -> walk.cell(3, 0));
         Check.answers(2, "no old bend", () -> walk.pace(1, 0, 2));
         Check.answers(7, "the new bend", () -> walk.pace(3, 0, 2));
+        walk.use(1, false);
+        Check.answers(0, "a candidate: the third clue is no more", () -> walk.why(2, 0));
+        Check.answers(3, "a cell that is left", () -> walk.cell(2, 0));
         Check.load(walk, "walk 2 1;");
         Check.states("behind another load", walk, 2, 1, 0, 0, 0, 0, 2, 2, 0, 1, 0, 0, 0);
+        Check.answers(0, "a candidate without a clue", () -> walk.why(1, 0));
         Check.answers(-5, "an old mark", () -> Check.load(walk, "walk 4 2;clue h;"));
     }
 
@@ -210,8 +215,8 @@ final class LoadBoundaries {
     }
 
     private static void lengthsThatAreNone() {
-        Check.sentence("Throws `IllegalArgumentException` if length is negative or greater than the length of the buffer; "
-                + "the buffer is unchanged then");
+        Check.sentence("Throws `IllegalArgumentException` if length is negative or greater than the length of the "
+                + "buffer; the buffer is unchanged then");
         for (int appended = 0; appended <= 2; appended++) {
             TreasureWalk walk = appended == 0 ? new TreasureWalk() : filled("walk 3 2;" + " ".repeat(appended * 11));
             int length = appended * 20;

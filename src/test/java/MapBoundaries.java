@@ -34,7 +34,8 @@ final class MapBoundaries {
     private static void greatestStates() {
         Check.sentence("0 the width, 1 the height, 2 marks, 3 bends, 4 clues, 5 clues that are in use, 6 candidates, "
                 + "7 those that are left, 8 cells that are dug, 9 the parts of what is left, 10 the cell of the team, "
-                + "11 the paces that it made since the latest successful load, 12 the chest: 0 none, 1 hidden, 2 found");
+                + "11 the paces that it made since the latest successful load, "
+                + "12 the chest: 0 none, 1 hidden, 2 found");
         StringBuilder text = new StringBuilder("walk 20 20;team 19 19;");
         for (int i = 0; i < 8; i++) {
             text.append("mark ").append((char) ('a' + i)).append(" 0 0;bend 0 0 19 19 left 1;");
@@ -91,8 +92,8 @@ final class MapBoundaries {
     }
 
     private static void kindsOfCells() {
-        Check.sentence("Returns 0 water, 1 land that is no candidate and is not dug, 2 land that is no candidate and is "
-                + "dug, 3 a candidate that is left, 4 a candidate that is dug.");
+        Check.sentence("Returns 0 water, 1 land that is no candidate and is not dug, 2 land that is no candidate and "
+                + "is dug, 3 a candidate that is left, 4 a candidate that is dug.");
         TreasureWalk walk = Check.loaded("walk 5 1;water 4 0 4 0;mark a 0 0;mark b 2 0;clue a or b;");
         cells(walk, "3 1 3 1 0");
         walk.dig();

@@ -58,8 +58,8 @@ final class RouteBoundaries {
     }
 
     private static void nearestCells() {
-        Check.sentence("Returns the cell that is left and to which the team can come by the fewest paces, of several the "
-                + "first one; -1 if there is none.");
+        Check.sentence("Returns the cell that is left and to which the team can come by the fewest paces, "
+                + "of several the first one; -1 if there is none.");
         TreasureWalk ring = Check.loaded("walk 5 5;team 2 2;");
         int[] due = {12, 6, 7, 8, 11, 13, 16, 17, 18, 0, 1, 2, 3, 4, 5, 9, 10, 14, 15, 19, 20, 21, 22, 23, 24, -1};
         for (int cell : due) {
@@ -80,7 +80,8 @@ final class RouteBoundaries {
         Check.answers(0, "where the team is", () -> apart.nearest());
         apart.dig();
         Check.answers(-1, "it is dug", () -> apart.nearest());
-        Check.answers(-1, "no candidate", () -> Check.loaded("walk 2 1;mark a 0 0;mark b 1 0;clue a;clue b;").nearest());
+        Check.answers(-1, "no candidate",
+                () -> Check.loaded("walk 2 1;mark a 0 0;mark b 1 0;clue a;clue b;").nearest());
     }
 
     private static void tours() {
@@ -217,8 +218,8 @@ final class RouteBoundaries {
     }
 
     private static void means() {
-        Check.sentence("Returns the sum of the distances of the cells that are left and to which the team can come, and "
-                + "their number, both converted to double and divided; 0.0 if there are none.");
+        Check.sentence("Returns the sum of the distances of the cells that are left and to which the team can come, "
+                + "and their number, both converted to double and divided; 0.0 if there are none.");
         Check.answers(0.0, "where the team is", () -> new TreasureWalk().meanDistance());
         TreasureWalk walk = Check.loaded("walk 8 1;water 6 0 6 0;mark a 0 0;mark b 1 0;mark c 4 0;mark d 7 0;"
                 + "clue a or b or c;clue a or b;clue d;clue d or c or b;");
@@ -244,6 +245,12 @@ final class RouteBoundaries {
         TreasureWalk dug = Check.loaded("walk 3 1;");
         dug.dig();
         Check.answers(1.5, "but the dug one", () -> dug.meanDistance());
+        dug.moveTo(1, 0);
+        dug.dig();
+        dug.moveTo(0, 0);
+        Check.answers(2.0, "one cell alone", () -> dug.meanDistance());
+        dug.moveTo(2, 0);
+        Check.answers(0.0, "the cell of the team alone", () -> dug.meanDistance());
     }
 
     private static void chests() {

@@ -1,3 +1,6 @@
+import java.util.List;
+import java.util.TreeSet;
+
 /** The boundary cases of the document's terms: map, marks, bends, clues and what is left. */
 final class TermsBoundaries {
     private static final int[] STEP_X = {0, 1, 1, 1, 0, -1, -1, -1};
@@ -21,6 +24,7 @@ final class TermsBoundaries {
         numbersOfClues();
         startsOfClues();
         legsOfClues();
+        fourCluesOfEightLegs();
         regions();
         candidates();
         cellsLeft();
@@ -311,6 +315,60 @@ final class TermsBoundaries {
             text.append(i < 5 ? " go " + (i + 1) + " e" : " go 0 e");
         }
         Check.badAt(-6, "go", text + ";");
+    }
+
+    /** Every clue and every leg that there can be, on land without bends. */
+    private static void fourCluesOfEightLegs() {
+        Check.sentence("There are at most 4 clues, with indexes from 0.");
+        Check.sentence("and at most 8 legs, with indexes from 0.");
+        StringBuilder text = new StringBuilder("walk 9 9;mark a 0 0;mark b 5 1;");
+        for (int clue = 0; clue < 4; clue++) {
+            text.append(clue % 2 == 0 ? "clue a" : "clue b or a");
+            for (int leg = 0; leg < 8; leg++) {
+                text.append(" go ").append(paces(clue, leg)).append(isEast(clue, leg) ? " e" : " s");
+                text.append(leg % 4 == clue ? " give 1" : "");
+            }
+            text.append(';');
+        }
+        TreasureWalk walk = Check.loaded(text.toString());
+        for (int i = 0; i < 4; i++) {
+            int clue = i;
+            TreeSet<Integer> cells = new TreeSet<>(clue % 2 == 0 ? List.of(0) : List.of(0, 14));
+            for (int j = 0; j <= 8; j++) {
+                int legs = j;
+                int due = cells.size();
+                Check.answers(due, "reached(" + clue + ", " + legs + ")", () -> walk.reached(clue, legs));
+                cells = j < 8 ? behind(cells, clue, j) : cells;
+            }
+            StringBuilder region = new StringBuilder();
+            for (int cell : cells) {
+                region.append(region.length() == 0 ? "" : " ").append(cell % 9).append(',').append(cell / 9);
+            }
+            Check.region(walk, clue, region.toString());
+        }
+    }
+
+    private static int paces(int clue, int leg) {
+        return (clue + leg) % 3 == 0 ? 2 : leg % 2;
+    }
+
+    private static boolean isEast(int clue, int leg) {
+        return (clue * 3 + leg) % 5 < 2;
+    }
+
+    private static TreeSet<Integer> behind(TreeSet<Integer> cells, int clue, int leg) {
+        TreeSet<Integer> ends = new TreeSet<>();
+        int give = leg % 4 == clue ? 1 : 0;
+        for (int cell : cells) {
+            for (int n = Math.max(0, paces(clue, leg) - give); n <= paces(clue, leg) + give; n++) {
+                int x = cell % 9 + (isEast(clue, leg) ? n : 0);
+                int y = cell / 9 + (isEast(clue, leg) ? 0 : n);
+                if (x < 9 && y < 9) {
+                    ends.add(y * 9 + x);
+                }
+            }
+        }
+        return ends;
     }
 
     private static void regions() {
