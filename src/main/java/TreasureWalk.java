@@ -1248,6 +1248,8 @@ public final class TreasureWalk {
     /** The shortest tour over what is left: for each set of stops the best way to end at each. */
     private static final class Tours {
         private static final int SETS = 1 << MOST_STOPS;
+        /** More than the paces of any tour: each of its nine hops has less than 400. */
+        private static final int NO_TOUR_YET = 1000000;
 
         private final Data data;
         private final Survey survey;
@@ -1318,7 +1320,7 @@ public final class TreasureWalk {
             if (rest == 0) {
                 return hops.get(count * MOST_STOPS + last);
             }
-            int fewest = Integer.MAX_VALUE;
+            int fewest = NO_TOUR_YET;
             for (int stop = 0; stop < count; stop++) {
                 if ((rest >> stop & 1) == 1) {
                     int hop = hops.get(stop * MOST_STOPS + last);

@@ -8,6 +8,7 @@ import java.util.ArrayList;
 import java.util.HashSet;
 import java.util.List;
 import java.util.Set;
+import java.util.regex.MatchResult;
 import java.util.regex.Pattern;
 
 /** Rules of LANGUAGE.md that the source and the compiled classes can tell. Run at the project's root. */
@@ -25,6 +26,7 @@ public final class LanguageTests {
         signs(lines);
         imports(lines);
         words(String.join("\n", lines));
+        library(String.join("\n", lines));
         methodLengths(lines);
         classes();
         Check.finish();
@@ -51,6 +53,15 @@ public final class LanguageTests {
                 "\\bhashCode\\b", "\\bObject\\b")) {
             Check.answers(false, "the source has " + word, () -> Pattern.compile(word).matcher(source).find());
         }
+    }
+
+    /** Rule 4 lists functions of the library's classes, and none of their constants. */
+    private static void library(String source) {
+        Pattern member = Pattern.compile("\\b(Integer|Long|Math|System|Arrays|List|String)\\.\\w+\\(?");
+        Pattern listed = Pattern.compile("(Integer|Long|Math)\\.[a-z]\\w*(?<!Exact)\\(|System\\.arraycopy\\("
+                + "|Arrays\\.(copyOf|copyOfRange|fill)\\(|List\\.of\\(");
+        member.matcher(source).results().map(MatchResult::group).distinct().forEach(each ->
+                Check.answers(true, "rule 4 lists " + each, () -> listed.matcher(each).matches()));
     }
 
     /** A method begins and ends at lines of the same indent. */
